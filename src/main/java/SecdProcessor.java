@@ -914,7 +914,7 @@ public final class SecdProcessor {
         }
     }
 
-    /** Prints a result; what goes beyond the limit is cut at the end. */
+    /** Prints a result; what goes beyond the limit, a list left in the middle too, is cut. */
     private static final class Printer {
         private static final int PRINT_LIMIT = 80;
         private static final int DEPTH_LIMIT = 8;
@@ -1063,7 +1063,7 @@ public final class SecdProcessor {
             return list;
         }
 
-        /** To be called only where cellsFor(argument) cells are there. */
+        /** The caller has seen that there are cellsFor(argument) cells: none is collected here. */
         void start(Datum argument, int fuel) {
             memory.clear();
             lastConstant = program.lastConstant;
@@ -1268,22 +1268,18 @@ public final class SecdProcessor {
                 state = UNCALLABLE;
                 return;
             }
-            save(rest, e);
+            d = memory.newPair(rest, memory.newPair(e, memory.newMark(next, d)));
             e = memory.newPair(values, memory.cellOf(closure));
             enter(closure);
         }
 
         /** The closure was made over the frame of DUM, whose values are known only now. */
         private void applyRecursively(int closure, int values, int rest) {
-            save(rest, memory.tailOf(e));
+            int outer = memory.tailOf(e);
+            d = memory.newPair(rest, memory.newPair(outer, memory.newMark(next, d)));
             e = memory.cellOf(closure);
             memory.setHead(e, values);
             enter(closure);
-        }
-
-        private void save(int stack, int frames) {
-            int mark = memory.newMark(next, d);
-            d = memory.newPair(stack, memory.newPair(frames, mark));
         }
 
         private void enter(int closure) {
