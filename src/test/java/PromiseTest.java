@@ -491,6 +491,9 @@ public final class PromiseTest {
         prints("(lambda (x) ((lambda (y z) (cons y (cons x z))) 1 2))", "5", "(1 5 . 2)");
         prints("(lambda (x) (let (let (cons a b) (b a)) (a x)))", "5", "(5 . 5)");
         prints(COUNT, "3", "(3 2 1 a)");
+        prints("(lambda (x) (cons x (let 1)))", "5", "(5 . 1)");
+        prints("(lambda (x) (cons x (letrec 1)))", "5", "(5 . 1)");
+        prints("(lambda (x) (cons x (letrec (f x) (f (lambda (y) (cons y x))))))", "5", "(5 5 . 5)");
         prints("(letrec (lambda (n) (e n)) (e (lambda (n) (if (eq n 0) (quote yes) (o (sub n 1)))))"
                 + "(o (lambda (n) (if (eq n 0) (quote no) (e (sub n 1))))))", "3", "no");
         prints("(let (lambda (x) (add x y)) (y 10))", "5", "15");
