@@ -15,7 +15,7 @@ import java.util.regex.Pattern;
  * is counted, cells are never freed, and what can be reached is found by walking the objects.
  */
 final class Oracle {
-    static final List<String> ROW = List.of("LD", "LDC", "LDF", "AP", "RTN", "DUM", "RAP", "SEL",
+    private static final List<String> ROW = List.of("LD", "LDC", "LDF", "AP", "RTN", "DUM", "RAP", "SEL",
             "JOIN", "CAR", "CDR", "ATOM", "CONS", "EQ", "LEQ", "ADD", "SUB", "MUL", "DIV", "REM", "STOP");
     private static final Map<String, int[]> COSTS = costs();
     private static final Map<String, String> FORMS = Map.ofEntries(

@@ -4,8 +4,9 @@ import java.util.Random;
 
 /** Makes calls by chance, always the same ones, on a processor and on the oracle side by side. */
 public final class OracleTest {
-    private static final int OBJECTS = 6000;
-    private static final int CALLS = 512;
+    private static final int OBJECTS = 20000;
+    // As many as lookAtAll makes when 80 characters are printed.
+    private static final int LOOK_CALLS = 96;
     private static final String[] NAMES = {"x", "y", "f", "g", "t", "nil", "add", "if"};
     private static final String[] TWO = {"add", "sub", "mul", "div", "rem", "eq", "leq", "cons"};
     private static final String[] ONE = {"car", "cdr", "atom"};
@@ -24,7 +25,7 @@ public final class OracleTest {
     private static final int[] ENDS = new int[10];
 
     private final Random chance;
-    private final SecdProcessor processor;
+    private final CountedProcessor processor;
     private final Oracle oracle;
     private final List<String> calls = new ArrayList<>();
     private boolean differs = false;
@@ -33,7 +34,7 @@ public final class OracleTest {
         chance = new Random(seed);
         int cells = chance.nextInt(4) == 0 ? chance.nextInt(500) - 100 : 24 + chance.nextInt(60);
         calls.add("new " + cells);
-        processor = new SecdProcessor(cells);
+        processor = new CountedProcessor(cells);
         oracle = new Oracle(cells);
     }
 
@@ -54,8 +55,13 @@ public final class OracleTest {
         }
     }
 
+    /** Nothing is promised beyond the 512th call, so none is made there. */
+    private boolean hasRoom(int more) {
+        return processor.calls() + more <= CountedProcessor.MOST_CALLS;
+    }
+
     private void play() {
-        while (calls.size() < CALLS && !differs) {
+        while (hasRoom(LOOK_CALLS + 30) && !differs) {
             int kind = chance.nextInt(10);
             if (kind < 4) {
                 type(program());
@@ -63,29 +69,39 @@ public final class OracleTest {
             }
             if (kind < 8) {
                 type(argument());
-                int fuel = chance.nextInt(3) == 0 ? chance.nextInt(400) - 5 : 8000 - chance.nextInt(10) / 9 * 7000;
-                same("begin(" + fuel + ")", processor.begin(fuel), oracle.begin(fuel));
+                begin();
                 lookAtAll();
                 runOn();
             } else if (kind == 8) {
-                processor.erase();
-                oracle.erase();
-                calls.add("erase()");
+                erase();
             } else {
                 int c = chance.nextInt(3) == 0 ? chance.nextInt() : chance.nextInt(140) - 5;
                 same("put(" + c + ")", processor.put(c) ? 1 : 0, oracle.put(c) ? 1 : 0);
             }
         }
-        ENDS[processor.status()]++;
         lookAtAll();
-        for (int address = -2; address < 515; address++) {
+        for (int address = -2; address < 515 && hasRoom(2); address++) {
             same("code(" + address + ")", processor.code(address), oracle.code(address));
+        }
+        ENDS[processor.status()]++;
+    }
+
+    private void erase() {
+        processor.erase();
+        oracle.erase();
+        calls.add("erase()");
+    }
+
+    private void begin() {
+        if (hasRoom(2)) {
+            int fuel = chance.nextInt(3) == 0 ? chance.nextInt(400) - 5 : 8000 - chance.nextInt(10) / 9 * 7000;
+            same("begin(" + fuel + ")", processor.begin(fuel), oracle.begin(fuel));
         }
     }
 
     private void runOn() {
         int runs = 1 + chance.nextInt(6);
-        for (int k = 0; k < runs; k++) {
+        for (int k = 0; k < runs && hasRoom(2); k++) {
             int n = chance.nextInt(3) == 0 ? chance.nextInt(1010) - 5 : 1 + chance.nextInt(40);
             same("run(" + n + ")", processor.run(n), oracle.run(n));
             lookAtAll();
@@ -93,9 +109,11 @@ public final class OracleTest {
     }
 
     private void type(String text) {
+        if (!hasRoom(text.length() + 4)) {
+            return;
+        }
         if (chance.nextInt(8) != 0) {
-            processor.erase();
-            oracle.erase();
+            erase();
         }
         calls.add("type " + text);
         for (int k = 0; k < text.length(); k++) {
@@ -105,6 +123,9 @@ public final class OracleTest {
     }
 
     private void lookAtAll() {
+        if (!hasRoom(LOOK_CALLS)) {
+            return;
+        }
         same("status()", processor.status(), oracle.status());
         same("cycles()", processor.cycles(), oracle.cycles());
         same("address()", processor.address(), oracle.address());

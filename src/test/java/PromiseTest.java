@@ -1,23 +1,9 @@
 /** Goes through the promises of the document, one method each, with answers worked out by hand. */
-public final class PromiseTest {
-    private static final int NO_RUN = 0;
-    private static final int RUNNING = 1;
-    private static final int DONE = 2;
-    private static final int TIRED = 3;
-    private static final int FULL = 4;
-    private static final int SHORT = 5;
-    private static final int UNPAIRED = 6;
-    private static final int UNCOUNTED = 7;
-    private static final int ZERO = 8;
-    private static final int UNCALLABLE = 9;
-
+public final class PromiseTest extends Check {
     private static final String FIBONACCI =
             "(letrec (lambda (n) (f n)) (f (lambda (n) (if (leq n 1) n (add (f (sub n 1)) (f (sub n 2)))))))";
     private static final String COUNT =
             "(letrec (lambda (n) (f n)) (f (lambda (n) (if (eq n 0) (quote (a)) (cons n (f (sub n 1)))))))";
-
-    private static int checks = 0;
-    private static int wrong = 0;
 
     public static void main(String[] args) {
         aNewObject();
@@ -44,75 +30,7 @@ public final class PromiseTest {
         printed();
         printedValues();
         character();
-        System.out.println(checks + " answers, " + wrong + " of them wrong");
-        if (wrong != 0) {
-            System.exit(1);
-        }
-    }
-
-    private static void due(String what, int got, int want) {
-        checks++;
-        if (got != want) {
-            wrong++;
-            System.out.println(what + ": answered " + got + ", due is " + want);
-        }
-    }
-
-    private static void due(String what, boolean got, boolean want) {
-        due(what, got ? 1 : 0, want ? 1 : 0);
-    }
-
-    private static void due(String what, String got, String want) {
-        checks++;
-        if (!got.equals(want)) {
-            wrong++;
-            System.out.println(what + ": answered [" + got + "], due is [" + want + "]");
-        }
-    }
-
-    private static void type(SecdProcessor x, String text) {
-        for (int k = 0; k < text.length(); k++) {
-            due("put " + text.charAt(k), x.put(text.charAt(k)), true);
-        }
-    }
-
-    private static int compiled(SecdProcessor x, String text) {
-        x.erase();
-        type(x, text);
-        return x.compile();
-    }
-
-    private static int begun(SecdProcessor x, String argument, int fuel) {
-        x.erase();
-        type(x, argument);
-        return x.begin(fuel);
-    }
-
-    /** A processor of 200 cells with the program run on the argument up to its end. */
-    private static SecdProcessor finished(String program, String argument) {
-        SecdProcessor x = new SecdProcessor(200);
-        due(program + " compiles", compiled(x, program) > 0, true);
-        due(program + " begins", begun(x, argument, 8000) > 0, true);
-        for (int k = 0; k < 9 && x.status() == RUNNING; k++) {
-            x.run(1000);
-        }
-        return x;
-    }
-
-    private static String result(SecdProcessor x) {
-        StringBuilder text = new StringBuilder();
-        for (int k = 0; k < x.printed(); k++) {
-            text.append((char) x.character(k));
-        }
-        return text.toString();
-    }
-
-    private static void prints(String program, String argument, String want) {
-        due(program + " of " + argument, result(finished(program, argument)), want);
-    }
-
-    private static void ends(String program, String argument, int want) {
-        due(program + " of " + argument + " ends", finished(program, argument).status(), want);
+        end();
     }
 
     private static String row(int parts) {
@@ -120,7 +38,7 @@ public final class PromiseTest {
     }
 
     private static void aNewObject() {
-        SecdProcessor x = new SecdProcessor(100);
+        CountedProcessor x = new CountedProcessor(100);
         due("no program", x.code(0), -1);
         due("no run", x.status(), NO_RUN);
         due("no text", x.compile(), -1);
@@ -136,27 +54,21 @@ public final class PromiseTest {
 
     /** An argument of all cells but the names' three and the two new pairs fits; one more does not. */
     private static void cellsAre(int asked, int cells) {
-        SecdProcessor x = new SecdProcessor(asked);
+        CountedProcessor x = new CountedProcessor(asked);
         compiled(x, "(quote nil)");
         due("cells " + asked + " hold", begun(x, argumentOf(cells - 5), 10), cells);
         due("cells " + asked + " do not hold", begun(x, argumentOf(cells - 4), 10), -3);
     }
 
-    /** A number in a list takes two cells, a nil one. */
-    private static String argumentOf(int cells) {
-        return "(" + "1 ".repeat(cells / 2) + (cells % 2 == 0 ? ")" : "nil)");
-    }
-
     private static void put() {
-        SecdProcessor x = new SecdProcessor(24);
-        for (int c = -3; c < 300; c++) {
-            x.erase();
+        CountedProcessor fresh = new CountedProcessor(24);
+        for (int c = -3; c < 190; c++) {
             boolean isOne = c == 32 || c == 40 || c == 41 || c == 45 || c >= 48 && c <= 57 || c >= 97 && c <= 122;
-            due("put(" + c + ")", x.put(c), isOne);
+            due("put(" + c + ")", fresh.put(c), isOne);
         }
-        due("put far above", x.put(65536 + 'a'), false);
-        due("put the least", x.put(Integer.MIN_VALUE), false);
-        x.erase();
+        due("put far above", fresh.put(65536 + 'a'), false);
+        due("put the least", fresh.put(Integer.MIN_VALUE), false);
+        CountedProcessor x = new CountedProcessor(24);
         for (int k = 0; k < 199; k++) {
             due("put a blank", x.put(' '), true);
         }
@@ -170,7 +82,7 @@ public final class PromiseTest {
     }
 
     private static void erase() {
-        SecdProcessor x = new SecdProcessor(24);
+        CountedProcessor x = new CountedProcessor(24);
         type(x, "(((");
         x.erase();
         due("nothing is left", x.compile(), -1);
@@ -191,7 +103,7 @@ public final class PromiseTest {
     }
 
     private static void compile() {
-        SecdProcessor x = new SecdProcessor(24);
+        CountedProcessor x = new CountedProcessor(24);
         due("a number", compiled(x, "5"), 3);
         due("the text is empty then", x.compile(), -1);
         due("the program stays", x.code(1), 3);
@@ -212,7 +124,6 @@ public final class PromiseTest {
     }
 
     private static void compileErrors() {
-        SecdProcessor x = new SecdProcessor(24);
         String[] badForms = {"()", "(quote)", "(quote 1 2)", "(car)", "(cdr 1 2)", "(atom)", "(add 1)",
             "(sub 1 2 3)", "(mul)", "(div 1)", "(rem 1 2 3)", "(eq 1)", "(leq 1)", "(cons 1)", "(cons 1 2 3)",
             "(if 1 2)", "(if 1 2 3 4)", "(lambda)", "(lambda (x))", "(lambda x x)", "(lambda 1 1)",
@@ -221,13 +132,13 @@ public final class PromiseTest {
             "(letrec 1 (x 1) 2)", "(letrec 1 (x))", "(lambda (car) (car))", "(add () 1)", "(())", "(1 ())",
             "(lambda (x) ())", "(let 1 (x ()))", "(letrec () (x 1))", "(if 1 2 ())"};
         for (String text : badForms) {
-            due(text, compiled(x, text), -2);
+            due(text, compiled(text), -2);
         }
         String[] unbound = {"x", "nil", "t", "f", "car", "lambda", "(x)", "(x 1)", "(1 x)", "(add 1 x)",
             "(lambda (x) y)", "(let x (y 1))", "(let 1 (x x))", "(let x (y 1) (z x))", "(letrec y (x x))",
             "(add (lambda (x) x) x)", "(cons 1 (let x (y 1)))", "(quotes 1)"};
         for (String text : unbound) {
-            due(text, compiled(x, text), -3);
+            due(text, compiled(text), -3);
         }
         String[][] firstCounts = {{"(add x ())", "-3"}, {"(add () x)", "-2"}, {"(cons x ())", "-2"},
             {"(cons () x)", "-3"}, {"(x ())", "-2"}, {"(() x)", "-3"}, {"(1 () x)", "-3"}, {"(1 x ())", "-2"},
@@ -236,22 +147,22 @@ public final class PromiseTest {
             {"(letrec () (y x))", "-3"}, {"(letrec x (y ()))", "-2"}, {"(add x 1 2)", "-2"},
             {"(let x (y x) (z))", "-2"}, {"(add (car x 1) y)", "-2"}, {"(lambda (x x 1) y)", "-2"}};
         for (String[] row : firstCounts) {
-            due(row[0], compiled(x, row[0]), Integer.parseInt(row[1]));
+            due(row[0], compiled(row[0]), Integer.parseInt(row[1]));
         }
         String[] fine = {"(lambda () 1)", "(lambda (nil t f car) (add nil car))", "(let 1)", "(letrec 1)",
             "(let (car car) (car 1))", "(letrec x (x x))", "(1)", "((quote ()))", "(quote (if 1))",
             "(lambda (quote) quote)", "(lambda (x) (x))"};
         for (String text : fine) {
-            due(text + " is taken", compiled(x, text) > 0, true);
+            due(text + " is taken", compiled(text) > 0, true);
         }
     }
 
     private static void reading() {
-        SecdProcessor x = new SecdProcessor(200);
         String[] unreadable = {"", " ", "   ", "(", ")", "())", "(()", "1 2", "1a", "a1", "5-3", "()()", "() 1", "-",
             "- 3", "--3", "-a", "(-)", "(5-)", "(- 5)", "1234567890", "-1234567890", "0000000000", "abcdefg",
             "(abcdefg)", "(1 1234567890)", "(1))", "((1)", ")("};
         for (String text : unreadable) {
+            CountedProcessor x = new CountedProcessor(200);
             due("[" + text + "] is not read", compiled(x, text), -1);
             compiled(x, "1");
             due("[" + text + "] is no argument", begun(x, text, 10), -2);
@@ -267,6 +178,7 @@ public final class PromiseTest {
         prints("(lambda(x)x)", "(() nil (nil))", "(nil nil (nil))");
         String twelve = "(".repeat(12) + ")".repeat(12);
         String thirteen = "(".repeat(13) + ")".repeat(13);
+        CountedProcessor x = new CountedProcessor(200);
         compiled(x, "1");
         due("twelve deep", begun(x, twelve, 10), 3 + 1 + 2 + 11);
         due("thirteen deep", begun(x, thirteen, 10), -2);
@@ -279,28 +191,8 @@ public final class PromiseTest {
         due("a call thirteen deep", compiled(x, "(".repeat(13) + "1" + ")".repeat(13)), -1);
     }
 
-    private static int word(String instruction) {
-        String[] words = instruction.trim().split(" ");
-        int word = Oracle.ROW.indexOf(words[0]);
-        if (words.length > 1) {
-            word += 32 * Integer.parseInt(words[1]);
-        }
-        return words.length > 2 ? word + 16384 * Integer.parseInt(words[2]) : word;
-    }
-
-    private static void codeIs(String program, String code) {
-        SecdProcessor x = new SecdProcessor(24);
-        String[] want = (code + ", AP, STOP").split(",");
-        due("size of " + program, compiled(x, program), want.length);
-        for (int k = 0; k < want.length; k++) {
-            due("code(" + k + ") of " + program, x.code(k), word(want[k]));
-        }
-        due("code behind " + program, x.code(want.length), -1);
-        due("code before " + program, x.code(-1), -1);
-    }
-
     private static void code() {
-        SecdProcessor x = new SecdProcessor(24);
+        CountedProcessor x = new CountedProcessor(24);
         due("code without a program", x.code(0), -1);
         due("code without a program", x.code(-1), -1);
         compiled(x, "(lambda (x) (add x 1))");
@@ -366,7 +258,7 @@ public final class PromiseTest {
     /** 200 characters, each of 186 of them an argument: as long as code can get, or nearly so. */
     private static void codeOfTheLongestText() {
         String text = "(lambda(x)(x " + "1x".repeat(92) + "1))";
-        SecdProcessor x = new SecdProcessor(200);
+        CountedProcessor x = new CountedProcessor(200);
         due("its length", text.length(), 200);
         due("its code", compiled(x, text), 1 + 1 + 185 * 2 + 2 + 1 + 2);
         due("LDF to its end", x.code(0), 2 + 32 * 375);
@@ -375,15 +267,16 @@ public final class PromiseTest {
         due("its cells", begun(x, "1", 8000), 3 + 93 + 1 + 2);
         due("runs", x.run(1000) > 0, true);
         String names = "(lambda(" + "a b c d e f g h i j k l m n o p q r s u v w x y z ".repeat(3) + "t)t)";
-        compiled(x, names);
-        due("a far name", x.code(1), 16384 * 75);
+        CountedProcessor y = new CountedProcessor(200);
+        compiled(y, names);
+        due("a far name", y.code(1), 16384 * 75);
         String quoted = "(quote(" + "1a".repeat(95) + "))";
-        due("a long constant", compiled(x, quoted), 3);
-        due("a constant that is too long", begun(x, "1", 10), -3);
+        due("a long constant", compiled(y, quoted), 3);
+        due("a constant that is too long", begun(y, "1", 10), -3);
     }
 
     private static void begin() {
-        SecdProcessor x = new SecdProcessor(24);
+        CountedProcessor x = new CountedProcessor(24);
         type(x, "1");
         due("no program", x.begin(10), -1);
         compiled(x, "(lambda (x) (cons 1 (quote (a nil t f (2)))))");
@@ -409,7 +302,7 @@ public final class PromiseTest {
         due("one more than all", begun(x, "(1 (2 3)t()4)", 1), -3);
         due("the run stays when there is no room", x.status(), FULL);
         due("the text stays when there is no room", x.begin(1), -3);
-        SecdProcessor y = new SecdProcessor(24);
+        CountedProcessor y = new CountedProcessor(24);
         compiled(y, "(quote nil)");
         due("nil takes no cell", begun(y, "nil", 1), 5);
         due("each name takes a cell", begun(y, "(a a a)", 1), 11);
@@ -418,7 +311,7 @@ public final class PromiseTest {
     }
 
     private static void run() {
-        SecdProcessor x = new SecdProcessor(60);
+        CountedProcessor x = new CountedProcessor(60);
         due("no program", x.run(1), -1);
         compiled(x, "(lambda (x) (add x 1))");
         due("no run", x.run(1), -1);
@@ -441,7 +334,7 @@ public final class PromiseTest {
         begun(x, "1", 2);
         due("tired does not count", x.run(1000), 1);
         due("over, tired", x.run(1), 0);
-        SecdProcessor y = new SecdProcessor(200);
+        CountedProcessor y = new CountedProcessor(200);
         compiled(y, FIBONACCI);
         begun(y, "12", 8000);
         due("a thousand", y.run(1000), 1000);
@@ -525,19 +418,19 @@ public final class PromiseTest {
         ends("(lambda (x) (rem 1 x))", "0", ZERO);
         ends("(lambda (x) (div x x))", "0", ZERO);
         ends("(lambda (x) (mul x x))", "0", DONE);
-        SecdProcessor x = finished("(lambda (x) (add 1 (car x)))", "5");
+        CountedProcessor x = finished("(lambda (x) (add 1 (car x)))", "5");
         due("cycles of an error: LDF AP LDC LD CAR", x.cycles(), 3 + 6 + 2 + 3 + 2);
         due("nothing else is changed: address", x.address(), 3);
         due("nothing else is changed: S", x.depth(0), 2);
         due("nothing else is changed: E", x.depth(1), 1);
         due("nothing else is changed: D", x.depth(2), 1);
         due("nothing else is changed: used", x.used(), 7 + 2 + 4 + 1 + 1);
-        SecdProcessor y = finished("(lambda (x y z) z)", "5");
+        CountedProcessor y = finished("(lambda (x y z) z)", "5");
         due("SHORT costs the way", y.cycles(), 3 + 6 + 3 + 2);
     }
 
     private static void status() {
-        SecdProcessor x = new SecdProcessor(24);
+        CountedProcessor x = new CountedProcessor(24);
         due("new", x.status(), NO_RUN);
         compiled(x, "(lambda (x) x)");
         due("compiled", x.status(), NO_RUN);
@@ -562,7 +455,7 @@ public final class PromiseTest {
     }
 
     private static void cycles() {
-        SecdProcessor x = new SecdProcessor(24);
+        CountedProcessor x = new CountedProcessor(24);
         due("no run", x.cycles(), -1);
         compiled(x, "(lambda (x) x)");
         due("no run yet", x.cycles(), -1);
@@ -583,13 +476,13 @@ public final class PromiseTest {
             // LDF 3, AP 6, RTN 4 and STOP 1 stand around each of them.
             due(program, finished(program, "(1 2)").cycles(), 14 + Integer.parseInt(row[1]));
         }
-        SecdProcessor y = new SecdProcessor(24);
+        CountedProcessor y = new CountedProcessor(24);
         compiled(y, "1");
         due("no run since", y.cycles(), -1);
     }
 
     private static void address() {
-        SecdProcessor x = new SecdProcessor(24);
+        CountedProcessor x = new CountedProcessor(24);
         due("no run", x.address(), -1);
         compiled(x, "(lambda (x) (if x 1 (car 2)))");
         due("no run yet", x.address(), -1);
@@ -615,7 +508,7 @@ public final class PromiseTest {
     }
 
     private static void depth() {
-        SecdProcessor x = new SecdProcessor(200);
+        CountedProcessor x = new CountedProcessor(200);
         due("no run", x.depth(0), -1);
         compiled(x, "(lambda (x) (let (if (atom y) (cons 1 y) 2) (z 1) (y 2)))");
         due("no run yet", x.depth(2), -1);
@@ -631,7 +524,7 @@ public final class PromiseTest {
             x.run(1);
         }
         due("done", x.status(), DONE);
-        SecdProcessor y = new SecdProcessor(200);
+        CountedProcessor y = new CountedProcessor(200);
         compiled(y, COUNT);
         begun(y, "2", 8000);
         due("DUM", y.run(1), 1);
@@ -643,7 +536,7 @@ public final class PromiseTest {
     }
 
     private static void live() {
-        SecdProcessor x = new SecdProcessor(60);
+        CountedProcessor x = new CountedProcessor(60);
         due("no run", x.live(), -1);
         compiled(x, "(lambda (x) (add x 1))");
         due("no run yet", x.live(), -1);
@@ -662,12 +555,12 @@ public final class PromiseTest {
         due("a closure that holds itself", x.live(), 11);
         compiled(x, "1");
         due("no run since", x.live(), -1);
-        SecdProcessor y = finished("(quote (a b))", "7");
+        CountedProcessor y = finished("(quote (a b))", "7");
         due("constants are live, so is all that S holds", y.live(), 3 + 4 + 3 + 1);
     }
 
     private static void used() {
-        SecdProcessor x = new SecdProcessor(60);
+        CountedProcessor x = new CountedProcessor(60);
         due("no run", x.used(), -1);
         compiled(x, "(lambda (x) (add x 1))");
         due("no run yet", x.used(), -1);
@@ -682,7 +575,7 @@ public final class PromiseTest {
             {"(leq 1 2)", "3"}, {"(eq 1 2)", "3"}, {"(cons 1 2)", "4"}, {"(lambda () 1)", "2"}, {"(if 1 2 3)", "3"},
             {"((lambda () 1))", "9"}, {"(let 1)", "9"}, {"(letrec 1)", "9"}};
         for (String[] row : takes) {
-            SecdProcessor y = new SecdProcessor(200);
+            CountedProcessor y = new CountedProcessor(200);
             compiled(y, "(lambda (x) " + row[0] + ")");
             int first = begun(y, "(1 2)", 8000);
             y.run(1000);
@@ -694,7 +587,7 @@ public final class PromiseTest {
     }
 
     private static void collections() {
-        SecdProcessor x = new SecdProcessor(24);
+        CountedProcessor x = new CountedProcessor(24);
         due("no run", x.collections(), -1);
         compiled(x, "(lambda (x) (add (add x 1) (add x 1)))");
         due("no run yet", x.collections(), -1);
@@ -721,7 +614,7 @@ public final class PromiseTest {
     }
 
     private static void tiredAndFull() {
-        SecdProcessor x = new SecdProcessor(24);
+        CountedProcessor x = new CountedProcessor(24);
         compiled(x, "(lambda (x) (add (add x 1) (add x 1)))");
         begun(x, "5", 8000);
         x.run(9);
@@ -751,7 +644,7 @@ public final class PromiseTest {
     }
 
     private static void printed() {
-        SecdProcessor x = new SecdProcessor(200);
+        CountedProcessor x = new CountedProcessor(200);
         due("no run", x.printed(), -1);
         compiled(x, "(lambda (x) x)");
         begun(x, "(1 2)", 8000);
@@ -800,7 +693,7 @@ public final class PromiseTest {
     }
 
     private static void character() {
-        SecdProcessor x = new SecdProcessor(200);
+        CountedProcessor x = new CountedProcessor(200);
         due("no run", x.character(0), -1);
         compiled(x, "(lambda (x) x)");
         begun(x, "(1 ab)", 8000);
@@ -819,7 +712,7 @@ public final class PromiseTest {
         x.run(1000);
         due("of the new run", x.character(0), '7');
         due("none of the old run", x.character(1), -1);
-        SecdProcessor y = finished("(lambda (x) x)", row(60));
+        CountedProcessor y = finished("(lambda (x) x)", row(60));
         due("the last of 80", y.character(79), '1');
         due("the one before", y.character(78), ' ');
         due("cut", y.character(80), -1);
