@@ -122,8 +122,8 @@ public final class PrintingEdgesTest extends Check {
     }
 
     private static void deepPairs() {
-        says("The result, if a pair, is 1 deep");
-        says("a pair more than 8 deep is printed as '#'");
+        says("The result, if a pair, is 1 deep; the tail of a pair k deep is k deep, its head k + 1; "
+                + "a pair more than 8 deep is printed as '#'.");
         prints(SAME, "(((((((1)))))))", "(((((((1)))))))");
         prints(SAME, "((((((((1))))))))", "((((((((1))))))))");
         prints(SAME, "(((((((((1)))))))))", "((((((((#))))))))");

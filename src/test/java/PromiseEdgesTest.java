@@ -1,3 +1,5 @@
+import java.util.function.ToIntFunction;
+
 /** The edges that the promises themselves name, one method each, and the calls that are refused. */
 public final class PromiseEdgesTest extends Check {
     private static final int LEAST = Integer.MIN_VALUE;
@@ -14,6 +16,7 @@ public final class PromiseEdgesTest extends Check {
         compileAnswersItsSize();
         compileTakesTextAndRun();
         compileRefused();
+        codeOfEachInstruction();
         codeOutside();
         codeOfTheProgramTakenLast();
         beginInPlaceOfARun();
@@ -30,6 +33,8 @@ public final class PromiseEdgesTest extends Check {
         statusOfNoRun();
         statusOfEachEnd();
         answersWithoutRun();
+        cycles();
+        collections();
         addressOfEachEnd();
         depthOfRegisters();
         depthOfD();
@@ -206,6 +211,33 @@ public final class PromiseEdgesTest extends Check {
         due("the text is there behind [" + text + "]", x.begin(MOST_FUEL) > 0, true);
         x.run(1000);
         due("as an argument, [" + text + "]", result(x), printed);
+    }
+
+    private static void wordsAre(String program, int... words) {
+        CountedProcessor x = new CountedProcessor(24);
+        due("size of " + program, compiled(x, program), words.length + 2);
+        for (int k = 0; k < words.length; k++) {
+            due("code(" + k + ") of " + program, x.code(k), words[k]);
+        }
+        due("AP of " + program, x.code(words.length), 3);
+        due("STOP of " + program, x.code(words.length + 1), 20);
+    }
+
+    private static void codeOfEachInstruction() {
+        says("its number in the row LD LDC LDF AP RTN DUM RAP SEL JOIN CAR CDR ATOM CONS EQ LEQ ADD SUB MUL DIV REM "
+                + "STOP (from 0) + 32 * (i, k or p, 0 if it has none) + 16384 * (j or q, 0 if it has none)");
+        wordsAre(SAME, 2 + 32 * 3, 0, 4);
+        wordsAre("(lambda (a b c) (lambda () c))", 2 + 32 * 5, 2 + 32 * 4, 32 + 16384 * 2, 4, 4);
+        wordsAre("(1)", 1, 1 + 32, 3);
+        wordsAre("(letrec 1)", 5, 1, 2 + 32 * 5, 1 + 32, 4, 6);
+        wordsAre("(if 1 2 3)", 1 + 32, 7 + 32 * 4 + 16384 * 6, 1 + 32 * 2, 8, 1 + 32 * 3, 8);
+        wordsAre("(car 1)", 33, 9);
+        wordsAre("(cdr 1)", 33, 10);
+        wordsAre("(atom 1)", 33, 11);
+        String[] two = {"cons", "eq", "leq", "add", "sub", "mul", "div", "rem"};
+        for (int k = 0; k < two.length; k++) {
+            wordsAre("(" + two[k] + " 1 2)", 33, 65, 12 + k);
+        }
     }
 
     private static void codeOutside() {
@@ -477,23 +509,59 @@ public final class PromiseEdgesTest extends Check {
         ends("(lambda (x) (x))", "0", 9);
     }
 
-    private static void answersWithoutRun() {
-        String none = "0 -1 -1 -1 -1 -1 -1 -1 -1  ";
+    /** A question about the run: -1 whenever there is none, and an answer once one was begun. */
+    private static void asksForARun(String sentence, ToIntFunction<CountedProcessor> question, int atBeginning) {
+        says(sentence);
         CountedProcessor x = new CountedProcessor(24);
-        says("Cycles spent; -1 if there is no run.");
-        says("Live cells (of a run that has ended, too, as it then was); -1 if there is no run.");
-        says("Used cells; -1 if there is no run.");
-        says("Collections made in the run; -1 if there is no run.");
-        due("new", state(x).substring(0, none.length()), none);
+        due("new", question.applyAsInt(x), -1);
         compiled(x, SAME);
-        due("compiled", state(x).substring(0, none.length()), none);
+        due("compiled", question.applyAsInt(x), -1);
         begun(x, "(", 10);
-        due("begin was refused", state(x).substring(0, none.length()), none);
+        due("begin was refused", question.applyAsInt(x), -1);
         begun(x, "1", MOST_FUEL);
-        due("begun", state(x).startsWith("1 0 0 1 0 0 6 6 0 "), true);
-        x.run(1000);
+        due("begun", question.applyAsInt(x), atBeginning);
+        compiled(x, "(");
+        due("compile was refused", question.applyAsInt(x), atBeginning);
         compiled(x, SAME);
-        due("compiled since", state(x).substring(0, none.length()), none);
+        due("compiled since", question.applyAsInt(x), -1);
+        begun(x, "1", MOST_FUEL);
+        x.run(1000);
+        due("ended", question.applyAsInt(x) >= 0, true);
+        compiled(x, SAME);
+        due("compiled since an end", question.applyAsInt(x), -1);
+    }
+
+    private static void answersWithoutRun() {
+        asksForARun("Cycles spent; -1 if there is no run.", CountedProcessor::cycles, 0);
+        asksForARun("that was the last to be done or not to be done); -1 if there is no run.",
+                CountedProcessor::address, 0);
+        asksForARun("Live cells (of a run that has ended, too, as it then was); -1 if there is no run.",
+                CountedProcessor::live, 6);
+        asksForARun("Used cells; -1 if there is no run.", CountedProcessor::used, 6);
+        asksForARun("Collections made in the run; -1 if there is no run.", CountedProcessor::collections, 0);
+    }
+
+    private static void cycles() {
+        says("Cycles spent");
+        CountedProcessor x = started(24, SAME, "1", MOST_FUEL);
+        for (int spent : new int[] {0, 3, 9, 12, 16, 17, 17}) {
+            due("spent", x.cycles(), spent);
+            x.run(1);
+        }
+        begun(x, "1", MOST_FUEL);
+        due("anew", x.cycles(), 0);
+    }
+
+    private static void collections() {
+        says("Collections made in the run");
+        // Each of the steps from the fifth on finds too few cells: see full in RunEdgesTest.
+        CountedProcessor x = started(24, "(lambda (x) (cons x (cons x (cons x (cons x (quote (a b c d e)))))))", "1",
+                MOST_FUEL);
+        for (int made : new int[] {0, 0, 0, 0, 0, 1, 1, 2, 3, 4, 4}) {
+            due("collections", x.collections(), made);
+            x.run(1);
+        }
+        due("full", x.status(), FULL);
     }
 
     private static void addressOfEachEnd() {
@@ -519,8 +587,6 @@ public final class PromiseEdgesTest extends Check {
         CountedProcessor x = started(60, SAME, "1", MOST_FUEL);
         x.run(4);
         due("STOP is the next", x.address() * 10 + x.status(), 40 + RUNNING);
-        says("-1 if there is no run.");
-        due("no run", new CountedProcessor(24).address(), -1);
     }
 
     private static void depthOfRegisters() {

@@ -255,7 +255,7 @@ public final class PromiseTest extends Check {
         codeIs("(lambda (ab abc abcdef) (add abcdef ab))", "LDF 5, LD 0 2, LD 0 0, ADD, RTN");
     }
 
-    /** 200 characters, each of 186 of them an argument: as long as code can get, or nearly so. */
+    /** 200 characters, 185 of them arguments: nearly as long as code can get. */
     private static void codeOfTheLongestText() {
         String text = "(lambda(x)(x " + "1x".repeat(92) + "1))";
         CountedProcessor x = new CountedProcessor(200);
