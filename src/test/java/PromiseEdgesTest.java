@@ -308,6 +308,13 @@ public final class PromiseEdgesTest extends Check {
         due("used", x.used(), 5);
         due("all", begun(x, argumentOf(19), 10), 24);
         due("used", x.used(), 24);
+        CountedProcessor y = new CountedProcessor(24);
+        compiled(y, "(add 1 (add 2 (quote (3 4))))");
+        due("with the constants", begun(y, "nil", 10), 5 + 6);
+        compiled(y, "(add 5 6)");
+        due("of the program that was taken last alone", begun(y, "nil", 10), 5 + 2);
+        compiled(y, "(add 1 (add 2 (add 3 z)))");
+        due("not of a refused one", begun(y, "nil", 10), 5 + 2);
     }
 
     private static void beginWithoutProgram() {
