@@ -207,7 +207,7 @@ public final class ExpressionEdgesTest extends Check {
         codeIs("(lambda (x) (lambda () x))", "LDF 5, LDF 4, LD 1 0, RTN, RTN");
         codeIs("(lambda (x) (let x))", "LDF 7, LDC 0, LDF 5, LD 1 0, RTN, AP, RTN");
         codeIs("(lambda (x) (letrec x))", "LDF 8, DUM, LDC 0, LDF 6, LD 1 0, RTN, RAP, RTN");
-        // 8 frames and the one that has it: as many as lists in lists leave room for.
+        // Frames without names count all the same, up to as many as lists in lists leave room for.
         codeIs("(lambda(x)" + "(lambda()".repeat(8) + "x" + ")".repeat(9),
                 "LDF 19, LDF 18, LDF 17, LDF 16, LDF 15, LDF 14, LDF 13, LDF 12, LDF 11, LD 8 0"
                 + ", RTN".repeat(9));

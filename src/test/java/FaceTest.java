@@ -28,7 +28,13 @@ public final class FaceTest {
         lookAtMethods();
         lookAtFields();
         lookAtNestedClasses();
-        lookAtSource(Files.readString(Path.of("src/main/java/SecdProcessor.java")));
+        lookAtSizes(SecdProcessor.class);
+        for (Class<?> inside : SecdProcessor.class.getDeclaredClasses()) {
+            lookAtSizes(inside);
+        }
+        String source = Files.readString(Path.of("src/main/java/SecdProcessor.java"));
+        lookAtSource(source);
+        lookAtMethodLengths(source);
         for (String wrong : WRONG) {
             System.out.println(wrong);
         }
@@ -87,6 +93,43 @@ public final class FaceTest {
                     WRONG.add("bears the name of a public method: " + method);
                 }
             }
+        }
+    }
+
+    /** Rules 5 and 11: what static fields are, how many fields a class and parameters a method has. */
+    private static void lookAtSizes(Class<?> type) {
+        Set<Class<?>> constants = Set.of(int.class, long.class, boolean.class, char.class, String.class,
+                int[].class, long[].class, char[].class, byte[].class);
+        int fields = 0;
+        for (Field field : type.getDeclaredFields()) {
+            if (!Modifier.isStatic(field.getModifiers())) {
+                fields++;
+            } else if (!Modifier.isFinal(field.getModifiers()) || !constants.contains(field.getType())) {
+                WRONG.add("a static field that is no constant: " + field);
+            }
+        }
+        if (fields > 20) {
+            WRONG.add("more than 20 fields: " + type);
+        }
+        for (Method method : type.getDeclaredMethods()) {
+            if (method.getParameterCount() > 7) {
+                WRONG.add("more than seven parameters: " + method);
+            }
+        }
+    }
+
+    /** Rule 11: a method begins with a line that opens a brace behind its parameters, and ends with its like. */
+    private static void lookAtMethodLengths(String source) {
+        Matcher method = Pattern.compile("(?m)^( {4}| {8})(?! )[^\n;]*\\) \\{\n((?s:.*?))^\\1\\}\n").matcher(source);
+        int methods = 0;
+        while (method.find()) {
+            methods++;
+            if (method.group(2).lines().count() > 60) {
+                WRONG.add("more than sixty lines: " + method.group().lines().findFirst().orElse("").trim());
+            }
+        }
+        if (methods < FACE.size()) {
+            WRONG.add("methods are not found in the source, but " + methods);
         }
     }
 

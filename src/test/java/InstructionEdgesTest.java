@@ -72,15 +72,28 @@ public final class InstructionEdgesTest extends Check {
         gives("(car (car x))", "((1 2) 3)", "1");
     }
 
-    /** Each instruction, by a body in which it stands, with its cycles and its cells. */
+    /** A body in which an instruction stands, and how the document writes it: name, cycles, cells. */
     private static final String[][] INSTRUCTIONS = {
-        {"x", "LD", "3", "1"}, {"1", "LDC", "2", "1"}, {"(lambda () 1)", "LDF", "3", "2"},
-        {"(cons 1 2)", "CONS", "3", "2"}, {"(car x)", "CAR", "2", "1"}, {"(cdr x)", "CDR", "2", "1"},
-        {"(atom x)", "ATOM", "2", "1"}, {"(add 1 2)", "ADD", "4", "2"}, {"(sub 1 2)", "SUB", "4", "2"},
-        {"(mul 1 2)", "MUL", "6", "2"}, {"(div 1 2)", "DIV", "8", "2"}, {"(rem 1 2)", "REM", "8", "2"},
-        {"(leq 1 2)", "LEQ", "4", "1"}, {"(eq 1 2)", "EQ", "3", "1"}, {"(if 1 2 3)", "SEL", "3", "1"},
-        {"(if 1 2 3)", "JOIN", "2", "0"}, {"((lambda () 1))", "AP", "6", "4"}, {"(letrec 1)", "DUM", "2", "1"},
-        {"(letrec 1)", "RAP", "7", "3"}, {"1", "RTN", "4", "1"}, {"1", "STOP", "1", "0"}};
+        {"x", "LD i j, 3 + i + j cycles, 1 cell"}, {"1", "LDC k, 2, 1"}, {"(lambda () 1)", "LDF p, 3, 2"},
+        {"(cons 1 2)", "CONS, 3, 2"}, {"(car x)", "CAR, 2, 1"}, {"(cdr x)", "CDR, 2, 1"},
+        {"(atom x)", "ATOM, 2, 1"}, {"(add 1 2)", "ADD, 4, 2"}, {"(sub 1 2)", "SUB, 4, 2"},
+        {"(mul 1 2)", "MUL, 6, 2"}, {"(div 1 2)", "DIV, 8, 2"}, {"(rem 1 2)", "REM, 8, 2"},
+        {"(leq 1 2)", "LEQ, 4, 1"}, {"(eq 1 2)", "EQ, 3, 1"}, {"(if 1 2 3)", "SEL p q, 3, 1"},
+        {"(if 1 2 3)", "JOIN, 2, 0"}, {"((lambda () 1))", "AP, 6, 4"}, {"(letrec 1)", "DUM, 2, 1"},
+        {"(letrec 1)", "RAP, 7, 3"}, {"1", "RTN, 4, 1"}, {"1", "STOP, 1, 0"}};
+
+    private static String nameIn(String instruction) {
+        return instruction.split("[ ,]")[0];
+    }
+
+    /** In the row of LD it is what LD 0 0 costs. */
+    private static int cyclesIn(String instruction) {
+        return Integer.parseInt(instruction.split(", ")[1].split(" ")[0]);
+    }
+
+    private static int cellsIn(String instruction) {
+        return Integer.parseInt(instruction.split(", ")[2].split(" ")[0]);
+    }
 
     /** A run of the body, within a lambda, up to where the instruction is the next one. */
     private static CountedProcessor upTo(String op, String body, String argument, int cells) {
@@ -94,38 +107,41 @@ public final class InstructionEdgesTest extends Check {
     }
 
     private static void cellsOfEachInstruction() {
-        says("a step takes as many cells as it makes new ones: the number behind the cycles");
         for (String[] row : INSTRUCTIONS) {
-            CountedProcessor x = upTo(row[1], row[0], "(1 2)", 200);
+            says(row[1]);
+            CountedProcessor x = upTo(nameIn(row[1]), row[0], "(1 2)", 200);
             int before = x.used();
-            due(row[1] + " is done", x.run(1), 1);
-            due("cells of " + row[1], x.used() - before, Integer.parseInt(row[3]));
+            due("it is done", x.run(1), 1);
+            due("its cells", x.used() - before, cellsIn(row[1]));
         }
         says("If the cells that are not used are fewer than the instruction at the next address takes");
         for (String[] row : INSTRUCTIONS) {
-            int takes = Integer.parseInt(row[3]);
-            String argument = "(1 1 1 1 1 1 1 1 1 1)";
-            int before = upTo(row[1], row[0], argument, 200).used();
-            CountedProcessor justEnough = upTo(row[1], row[0], argument, before + takes);
-            due(row[1] + " finds no collection made", justEnough.collections(), 0);
-            justEnough.run(1);
-            due(row[1] + " with just enough cells free", justEnough.collections(), 0);
-            if (takes > 0) {
-                CountedProcessor tooFew = upTo(row[1], row[0], argument, before + takes - 1);
-                due(row[1] + " finds no collection made, one cell fewer", tooFew.collections(), 0);
-                tooFew.run(1);
-                due(row[1] + " with one too few", tooFew.collections(), 1);
-            }
+            collectsForOneTooFew(row[0], nameIn(row[1]), cellsIn(row[1]));
+        }
+    }
+
+    private static void collectsForOneTooFew(String body, String op, int takes) {
+        String argument = "(1 1 1 1 1 1 1 1 1 1)";
+        int before = upTo(op, body, argument, 200).used();
+        CountedProcessor justEnough = upTo(op, body, argument, before + takes);
+        due(op + " finds no collection made", justEnough.collections(), 0);
+        justEnough.run(1);
+        due(op + " with just enough cells free", justEnough.collections(), 0);
+        if (takes > 0) {
+            CountedProcessor tooFew = upTo(op, body, argument, before + takes - 1);
+            due(op + " finds no collection made, one cell fewer", tooFew.collections(), 0);
+            tooFew.run(1);
+            due(op + " with one too few", tooFew.collections(), 1);
         }
     }
 
     private static void cyclesOfEachInstruction() {
-        says("its cycles are spent");
         for (String[] row : INSTRUCTIONS) {
-            CountedProcessor x = upTo(row[1], row[0], "(1 2)", 200);
+            says(row[1]);
+            CountedProcessor x = upTo(nameIn(row[1]), row[0], "(1 2)", 200);
             int before = x.cycles();
             x.run(1);
-            due("cycles of " + row[1], x.cycles() - before, Integer.parseInt(row[2]));
+            due("its cycles", x.cycles() - before, cyclesIn(row[1]));
         }
         says("LD i j, 3 + i + j cycles, 1 cell");
         due("LD 0 0", loadCycles("(lambda (w) w)"), 3);

@@ -404,12 +404,13 @@ public final class PromiseEdgesTest extends Check {
         CountedProcessor y = started(60, SAME, "1", MOST_FUEL);
         due("just as many as there are", y.run(5), 5);
         due("done", y.status(), DONE);
-        CountedProcessor z = started(200, "(letrec (lambda (n) (f n)) (f (lambda (n) "
-                + "(if (leq n 1) n (add (f (sub n 1)) (f (sub n 2)))))))", "12", MOST_FUEL);
+        // More than 1000 steps and fewer than 8000 cycles: see run in PromiseTest.
+        String fibonacci = "(letrec (lambda (n) (f n)) (f (lambda (n) "
+                + "(if (leq n 1) n (add (f (sub n 1)) (f (sub n 2)))))))";
+        CountedProcessor z = started(200, fibonacci, "9", MOST_FUEL);
         due("999", z.run(999), 999);
         due("still running", z.status(), RUNNING);
-        CountedProcessor w = started(200, "(letrec (lambda (n) (f n)) (f (lambda (n) "
-                + "(if (leq n 1) n (add (f (sub n 1)) (f (sub n 2)))))))", "12", MOST_FUEL);
+        CountedProcessor w = started(200, fibonacci, "9", MOST_FUEL);
         due("1000", w.run(1000), 1000);
         z.run(1);
         due("999 and 1 are 1000", state(z), state(w));

@@ -296,7 +296,7 @@ public final class PromiseTest extends Check {
         due("unreadable", begun(x, "(1", 8000), -2);
         due("fuel is looked at first", x.begin(0), -1);
         due("the text stays when refused", x.put(')') ? x.begin(1) : 0, 16);
-        due("just all cells", begun(x, "(1 (2 3 nil)t)", 1), 14 + 6 + 3);
+        due("one cell fewer than all", begun(x, "(1 (2 3 nil)t)", 1), 14 + 6 + 3);
         due("all cells", begun(x, "(1 (2 3)t()nil)", 1), 14 + 7 + 3);
         x.run(1);
         due("one more than all", begun(x, "(1 (2 3)t()4)", 1), -3);
@@ -334,9 +334,12 @@ public final class PromiseTest extends Check {
         begun(x, "1", 2);
         due("tired does not count", x.run(1000), 1);
         due("over, tired", x.run(1), 0);
+        // Up to f of 1 or 0: 7 steps, 21 cycles; else 21 steps, 70 cycles, 31 cells and two more calls. f of 9 makes
+        // 54 of these: more than 1000 steps. A call holds 9 cells at most, so that 9 calls and some 15 cells
+        // around them leave 104 free: 15 collections of 296 cycles at most, and some 3300 cycles of steps.
         CountedProcessor y = new CountedProcessor(200);
         compiled(y, FIBONACCI);
-        begun(y, "12", 8000);
+        begun(y, "9", 8000);
         due("a thousand", y.run(1000), 1000);
         due("still running", y.status(), RUNNING);
     }
@@ -529,7 +532,7 @@ public final class PromiseTest extends Check {
         begun(y, "2", 8000);
         due("DUM", y.run(1), 1);
         due("DUM makes E longer", y.depth(1), 1);
-        y.run(4);
+        due("LDC, LDF, CONS, LDF and RAP", y.run(5), 5);
         due("RAP leaves E as long as it is", y.depth(1), 1);
         compiled(y, "1");
         due("no run since", y.depth(1), -1);

@@ -82,6 +82,7 @@ public final class RunEdgesTest extends Check {
             due("status with fuel " + row[0], x.status(), row[3]);
             due("address with fuel " + row[0], x.address(), row[4]);
         }
+        // 376 calls of 70 cycles each and 377 of 21, of which 13 at most are open, with 9 cells each.
         CountedProcessor y = started(200, "(letrec (lambda (n) (f n)) (f (lambda (n) "
                 + "(if (leq n 1) n (add (f (sub n 1)) (f (sub n 2)))))))", "13", MOST_FUEL);
         for (int k = 0; k < 9; k++) {
