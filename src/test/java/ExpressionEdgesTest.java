@@ -278,7 +278,7 @@ public final class ExpressionEdgesTest extends Check {
     }
 
     private static void argumentsFromTheLast() {
-        says("LDC 0, then for each of them, from the last to the first: it, CONS");
+        says("ARGS of some expressions: LDC 0, then for each of them, from the last to the first: it, CONS");
         codeIs("(lambda (f a b c) (f a b c))",
                 "LDF 11, LDC 0, LD 0 3, CONS, LD 0 2, CONS, LD 0 1, CONS, LD 0 0, AP, RTN");
         codeIs("(let 1 (a 10) (b (quote q)) (c 30))",
@@ -291,6 +291,8 @@ public final class ExpressionEdgesTest extends Check {
         says("(cons a b): b, a, CONS");
         codeIs("(lambda (a b) (cons a b))", "LDF 5, LD 0 1, LD 0 0, CONS, RTN");
         gives("(cons 1 2)", "0", "(1 . 2)");
+        says("(car a): a, CAR. Likewise (cdr a) CDR and (atom a) ATOM");
+        codeIs("(car (cdr (atom 1)))", "LDC 1, ATOM, CDR, CAR");
         says("(add a b): a, b, ADD. Likewise sub, mul, div, rem, eq, leq");
         for (String op : new String[] {"add", "sub", "mul", "div", "rem", "eq", "leq"}) {
             codeIs("(lambda (a b) (" + op + " a b))", "LDF 5, LD 0 0, LD 0 1, " + op.toUpperCase() + ", RTN");
@@ -299,7 +301,8 @@ public final class ExpressionEdgesTest extends Check {
     }
 
     private static void addressesOfIf() {
-        says("where p is the address of b's first instruction, q that behind the second JOIN");
+        says("(if c a b): c, SEL p q, a, JOIN, b, JOIN, where p is the address of b's first instruction, "
+                + "q that behind the second JOIN");
         codeIs("(if 1 2 3)", "LDC 1, SEL 4 6, LDC 2, JOIN, LDC 3, JOIN");
         codeIs("(if (if 1 2 3) (if 4 5 6) (if 7 8 9))",
                 "LDC 1, SEL 4 6, LDC 2, JOIN, LDC 3, JOIN, SEL 14 21, LDC 4, SEL 11 13, LDC 5, JOIN, LDC 6, JOIN, JOIN, "
@@ -307,7 +310,7 @@ public final class ExpressionEdgesTest extends Check {
     }
 
     private static void addressesOfFunctions() {
-        says("where p is the address behind RTN");
+        says("(lambda (x ..) e), no or more x: LDF p, e within a frame of the x, RTN, where p is the address behind RTN");
         codeIs("(lambda () 1)", "LDF 3, LDC 1, RTN");
         codeIs("(lambda () (lambda () 1))", "LDF 5, LDF 4, LDC 1, RTN, RTN");
         codeIs("(cons (lambda () 1) (lambda () 2))", "LDF 3, LDC 1, RTN, LDF 6, LDC 2, RTN, CONS");

@@ -6,6 +6,8 @@ public final class InstructionEdgesTest extends Check {
         cellsOfLists();
         cellsOfEachInstruction();
         cyclesOfEachInstruction();
+        restOfSStays();
+        newAndSharedCells();
         loadTooShort();
         loadJustLongEnough();
         loadBeforeTheFrameIsFilled();
@@ -112,7 +114,8 @@ public final class InstructionEdgesTest extends Check {
             CountedProcessor x = upTo(nameIn(row[1]), row[0], "(1 2)", 200);
             int before = x.used();
             due("it is done", x.run(1), 1);
-            due("its cells", x.used() - before, cellsIn(row[1]));
+            says("a step takes as many cells as it makes new ones: the number behind the cycles");
+            due("cells of " + row[1], x.used() - before, cellsIn(row[1]));
         }
         says("If the cells that are not used are fewer than the instruction at the next address takes");
         for (String[] row : INSTRUCTIONS) {
@@ -161,6 +164,50 @@ public final class InstructionEdgesTest extends Check {
             spent += isLoad ? x.cycles() - before : 0;
         }
         return spent;
+    }
+
+    private static void restOfSStays() {
+        says("i times the tail of E, its head, j times the tail of that, the head of that is v; S becomes (v . S)");
+        gives("(cons x 9)", "5", "(5 . 9)");
+        says("LDC k, 2, 1: S becomes (constant k . S)");
+        gives("(cons 7 9)", "5", "(7 . 9)");
+        says("CONS, 3, 2: of S = (a . (b . s)): ((a . b) . s)");
+        gives("(cons (cons 7 2) 9)", "5", "((7 . 2) . 9)");
+        says("CAR, 2, 1; CDR, 2, 1: of (a . s): (the head, tail of a . s)");
+        gives("(cons (car x) 9)", "(1 2)", "(1 . 9)");
+        gives("(cons (cdr x) 9)", "(1 2)", "((2) . 9)");
+        says("ADD, 4, 2; SUB, 4, 2; MUL, 6, 2; DIV, 8, 2; REM, 8, 2: of (b . (a . s)): (a new number . s), a op b");
+        gives("(cons (add 7 2) 8)", "5", "(9 . 8)");
+        gives("(cons (sub 7 2) 8)", "5", "(5 . 8)");
+        gives("(cons (mul 7 2) 8)", "5", "(14 . 8)");
+        gives("(cons (div 7 2) 8)", "5", "(3 . 8)");
+        gives("(cons (rem 7 2) 8)", "5", "(1 . 8)");
+        says("LEQ, 4, 1: of (b . (a . s)): (t . s) if a is at most b, else (f . s)");
+        gives("(cons (leq 7 2) 8)", "5", "(f . 8)");
+        says("EQ, 3, 1: of (b . (a . s)): (t . s) if a and b are both numbers or both names and equal, else (f . s)");
+        gives("(cons (eq 7 2) 8)", "5", "(f . 8)");
+        says("LDF p, 3, 2: S becomes (closure of the next address and E . S)");
+        gives("(cons (lambda () 1) 8)", "5", "(fn . 8)");
+    }
+
+    /** In each body two values are held by a pair, on S; live are these, the names 3 and the constants. */
+    private static void newAndSharedCells() {
+        says("of (b . (a . s)): (a new number . s)");
+        for (String op : new String[] {"(add x 0)", "(sub x 0)", "(mul x 1)", "(div x 1)", "(rem x 9)"}) {
+            String program = "(lambda (x) (cons x " + op + "))";
+            prints(program, "5", "(5 . 5)");
+            due("a new 5 beside the old one: " + op, finished(program, "5").live(), 3 + 1 + 2 + 2);
+        }
+        says("LDC k, 2, 1: S becomes (constant k . S)");
+        due("the cells of the constants", finished("(lambda (x) (cons 1 2))", "5").live(), 3 + 2 + 2);
+        says("the head of that is v; S becomes (v . S)");
+        due("the cell of x twice", finished("(lambda (x) (cons x x))", "5").live(), 3 + 2 + 1);
+        says("of (a . s): (the head, tail of a . s)");
+        due("the head lies in the list", finished("(lambda (x) (cons x (car x)))", "((1))").live(), 3 + 2 + 3);
+        due("the tail lies in the list", finished("(lambda (x) (cons x (cdr x)))", "(1 2)").live(), 3 + 2 + 4);
+        says("The names nil, t and f each have one cell for ever.");
+        due("t and f are the names", finished("(lambda (x) (cons (atom x) (leq 2 1)))", "5").live(), 3 + 2 + 2);
+        due("t and f are the names", finished("(lambda (x) (cons (eq x x) (eq x 1)))", "5").live(), 3 + 1 + 2);
     }
 
     private static void loadTooShort() {
